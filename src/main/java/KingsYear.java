@@ -1067,12 +1067,13 @@ public final class KingsYear {
             stale = false;
             watched = NONE;
             fits = 0;
-            common = code.all();
+            int all = code.all();
+            common = all;
             int hindering = 0;
             for (int k = 0; k < size; k++) {
-                hindering |= code.hindrances(code.all(), hours[k], deeds[k]);
+                hindering |= code.hindrances(all, hours[k], deeds[k]);
             }
-            for (int set = 0; set <= code.all(); set++) {
+            for (int set = 0; set <= all; set++) {
                 if ((set & hindering) == 0 && comesOut(code, set)) {
                     fitting[fits] = set;
                     fits++;
