@@ -873,9 +873,13 @@ public final class KingsYear {
             Arrays.fill(triedIn, NONE);
         }
 
-        void retell(Log trials, Log breaches) {
+        private void begin() {
             Arrays.fill(triedIn, NONE);
             lapsed = 0;
+        }
+
+        void retell(Log trials, Log breaches) {
+            begin();
             for (int i = 0; i < trials.size; i++) {
                 int law = trials.laws[i];
                 if (triedIn[law] == NONE) {
@@ -885,8 +889,7 @@ public final class KingsYear {
         }
 
         void draw(int start, int years, int lawCount) {
-            Arrays.fill(triedIn, NONE);
-            lapsed = 0;
+            begin();
             seed = start;
             for (int year = 0; year < years; year++) {
                 int law = lot(lawCount);
@@ -904,7 +907,9 @@ public final class KingsYear {
 
         void put(int law, int year, boolean lapses) {
             triedIn[law] = year;
-            lapsed = lapses ? lapsed | 1 << law : lapsed & ~(1 << law);
+            if (lapses) {
+                lapsed |= 1 << law;
+            }
         }
 
         void drop(int law) {
@@ -1212,11 +1217,8 @@ public final class KingsYear {
             return any[laws] - none[laws];
         }
 
-        /** What is below is a power of two, so halving both is enough. */
+        /** What is below is a power of two, so halving both is enough; 0 comes to 0 by 1, too. */
         private void lower() {
-            if (above == 0) {
-                below = 1;
-            }
             for (int k = 0; k < 4 * LAWS; k++) {
                 if ((above & 1) == 1 || (below & 1) == 1) {
                     return;

@@ -627,6 +627,7 @@ public final class PromiseTest {
         gout(x, 7, 3, NONE, 1, 1);
         gout(tried(times("mAaa", 12), ""), 1, 0, NONE, 1, 1L << 48);
         gout(tried(times("mAaa", 12), ""), 1, 0, 0, (1L << 48) - 1, 1L << 48);
+        gout(tried(times("mAaa", 12), ""), 3, 0, 1, 0, 1);
         gout(tried(times("nAaa", 12), "Aa1"), 15, 0, 0, 129746337890625L, 1L << 48);
         gout(tried("nAaa;nBaa", "Aa1;Ba1"), 8, 0, NONE, 1, 4);
         gout(tried("nAaa;nBaa", "Aa1;Ba1"), 8, 0, 1, 1, 4);
@@ -664,8 +665,30 @@ public final class PromiseTest {
         for (int[] w : wrong) {
             due("24: bad", one.years(w[0], w[1], w[2]), BAD);
         }
+        for (int seed = -600; seed < 600; seed += 100) {
+            lotsOfManySeeds(seed);
+        }
         due("24: no laws", new KingsYear().years(0, 1, 0), BAD);
         due("24: faulty laws", with("mAa", "Aa1").years(0, 1, 1), BAD);
+    }
+
+    /** With twelve laws and thirty years some are tried first in year 29, where they bind the king alone. */
+    private static void lotsOfManySeeds(int first) {
+        String laws = "nAaa;nBaa;nCaa;nDaa;nEaa;nFaa;nAbb;nBbb;nCbb;nDbb;nEbb0;nFbb";
+        String wants = "Aa9;Ba8;Ca7;Da6;Ea5;Fa4;Ab6;Bb5;Cb4;Db3;Eb2;Fb1";
+        KingsYear x = with(laws, wants);
+        Oracle y = new Oracle();
+        for (int i = 0; i < laws.length(); i++) {
+            y.type(0, laws.charAt(i));
+        }
+        for (int i = 0; i < wants.length(); i++) {
+            y.type(1, wants.charAt(i));
+        }
+        for (int seed = first; seed < first + 100; seed++) {
+            int n = seed % 5 == 0 ? 29 : 30;
+            due("24: how many by seed " + seed, x.years(seed * 7919, n, 0), y.years(seed * 7919, n, 0));
+            due("24: joy by seed " + seed, x.years(seed * 7919, n, 1), y.years(seed * 7919, n, 1));
+        }
     }
 
     private static void sheets() {

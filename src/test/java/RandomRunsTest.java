@@ -39,7 +39,7 @@ public final class RandomRunsTest {
         for (int k = 0; k < trials; k++) {
             call(6);
         }
-        int most = run % 9 == 0 ? 512 : 230;
+        int most = run % 9 == 0 ? 505 : 230;
         while (calls < most && check.isWell()) {
             step();
         }
