@@ -1,8 +1,8 @@
 /** Each promise by its number: ordinary inputs, the edges that the document names, wrong inputs. */
 public final class PromiseTest {
-    private static final int NONE = -1, BAD = -2, NOT = -3, FULL = -4;
-    private static final int NULL = -11, INDEX = -12, CAST = -13, STORE = -14, SIZE = -15;
-    private static final int FAR_DOWN = Integer.MIN_VALUE, FAR_UP = Integer.MAX_VALUE;
+    private static final int NONE = Kings.NONE, BAD = Kings.BAD, NOT = Kings.NOT, FULL = Kings.FULL;
+    private static final int NULL = Kings.NULL, INDEX = Kings.INDEX, CAST = Kings.CAST, STORE = Kings.STORE, SIZE = Kings.SIZE;
+    private static final int FAR_DOWN = Kings.FAR_DOWN, FAR_UP = Kings.FAR_UP;
     private static final Check CHECK = new Check();
 
     public static void main(String[] args) {
@@ -30,41 +30,11 @@ public final class PromiseTest {
         writing();
         counts();
         digests();
-        CHECK.end("PromiseTest");
+        CHECK.end("PromiseTest", 1, 32);
     }
 
     private static void due(String what, long got, long want) {
         CHECK.due(what, got, want);
-    }
-
-    private static KingsYear with(String laws, String wants) {
-        KingsYear x = new KingsYear();
-        typeAll(x, 0, laws);
-        typeAll(x, 1, wants);
-        return x;
-    }
-
-    private static void typeAll(KingsYear x, int text, String s) {
-        for (int i = 0; i < s.length(); i++) {
-            due("typing " + s, x.type(text, s.charAt(i)), x.count(2 + text));
-        }
-    }
-
-    /** With laws from 0 on all tried in year 0, so that they bind all from year 1 on. */
-    private static KingsYear tried(String laws, String wants) {
-        KingsYear x = with(laws, wants);
-        for (int law = 0; law < x.count(0); law++) {
-            x.trial(0, law);
-        }
-        return x;
-    }
-
-    private static String times(String item, int many) {
-        StringBuilder s = new StringBuilder(item);
-        for (int k = 1; k < many; k++) {
-            s.append(';').append(item);
-        }
-        return s.toString();
     }
 
     private static void newObject() {
@@ -117,7 +87,7 @@ public final class PromiseTest {
             due("4: undo bad", x.undo(text), BAD);
             due("5: fault bad", x.fault(text), BAD);
         }
-        typeAll(x, 0, "mAab");
+        Kings.typeAll(x, 0, "mAab");
         due("3, 4: text after wipe", x.law(0, 3), 1);
         due("4: undo", x.undo(0), 3);
         due("4: undone law is gone", x.count(0), 0);
@@ -126,33 +96,33 @@ public final class PromiseTest {
     }
 
     private static void faults() {
-        String twelve = times("nFxx", 12);
+        String twelve = Kings.times("nFxx", 12);
         String[] laws = {"m", "mA", "mAa", "mAaa;", "x", "oAaa", "lAaa", "m@aa", "mGaa", "mA`a", "mAya", "mAa`", "mAay",
             "mAaa/", "mAaa:", "mAaa00", "mAaa0;", ";", "mAaa;;", "mAaa;x;m", "MAaa", "mAaa,nBbb", "mAaa; nBbb",
             twelve + ";", twelve + ";m", twelve + ";x", twelve + ";mAaa", twelve + "m"};
         int[] places = {1, 2, 3, 5, 0, 0, 0, 1, 1, 2, 2, 3, 3, 4, 4, 5, 6, 0, 5, 5, 0, 4, 5, 60, 60, 60, 60, 59};
         for (int k = 0; k < laws.length; k++) {
-            KingsYear x = with(laws[k], "");
+            KingsYear x = Kings.with(laws[k], "");
             due("5: fault of " + laws[k], x.fault(0), places[k]);
             due("5: no laws by " + laws[k], x.count(0), 0);
             due("5: bytes stay of " + laws[k], x.count(2), laws[k].length());
         }
-        for (String well : new String[] {"", "mAaa", "nFxx", "mAaa0", "mAaa9", "mAaa;nBxa5", twelve, times("mCgb7", 12)}) {
-            due("5: well is " + well, with(well, "").fault(0), NONE);
+        for (String well : new String[] {"", "mAaa", "nFxx", "mAaa0", "mAaa9", "mAaa;nBxa5", twelve, Kings.times("mCgb7", 12)}) {
+            due("5: well is " + well, Kings.with(well, "").fault(0), NONE);
         }
-        due("5: twelve laws", with(twelve, "").count(0), 12);
-        due("5: twelve leaning laws", with(times("mCgb7", 12), "").count(0), 12);
+        due("5: twelve laws", Kings.with(twelve, "").count(0), 12);
+        due("5: twelve leaning laws", Kings.with(Kings.times("mCgb7", 12), "").count(0), 12);
         String[] wants = {"A", "Aa", "Aa0", "Aa:", "a", "@a1", "Ga1", "A`1", "Ay1", "Aa1;", "Aa11", "Aa1;;", ";", "Aa1;B", "Aa1;b"};
         int[] wantPlaces = {1, 2, 2, 2, 0, 0, 0, 1, 1, 4, 3, 4, 0, 5, 4};
         for (int k = 0; k < wants.length; k++) {
-            KingsYear x = with("", wants[k]);
+            KingsYear x = Kings.with("", wants[k]);
             due("5: fault of wants " + wants[k], x.fault(1), wantPlaces[k]);
             due("5: no wants by " + wants[k], x.count(1), 0);
         }
-        for (String well : new String[] {"", "Aa1", "Fx9", times("Aa1", 12)}) {
-            due("5: well are wants " + well, with("", well).fault(1), NONE);
+        for (String well : new String[] {"", "Aa1", "Fx9", Kings.times("Aa1", 12)}) {
+            due("5: well are wants " + well, Kings.with("", well).fault(1), NONE);
         }
-        KingsYear x = tried("mAbb", "Ab4");
+        KingsYear x = Kings.tried("mAbb", "Ab4");
         due("5: before the fault", x.joy(0, 0), 4);
         x.type(1, ';');
         due("5: faulty wants are none", x.joy(0, 0), 0);
@@ -165,7 +135,7 @@ public final class PromiseTest {
     }
 
     private static void lawsAndWants() {
-        KingsYear x = with("mAax;nFxa9;mCgg0", "Aa1;Fx9;Cg5");
+        KingsYear x = Kings.with("mAax;nFxa9;mCgg0", "Aa1;Fx9;Cg5");
         int[][] laws = {{1, 0, 0, 23, NONE}, {0, 5, 23, 0, 9}, {1, 2, 6, 6, 0}};
         int[][] wants = {{0, 0, 1}, {5, 23, 9}, {2, 6, 5}};
         for (int i = 0; i < 3; i++) {
@@ -184,7 +154,7 @@ public final class PromiseTest {
             due("6: no law " + i, x.law(i, 0), BAD);
             due("7: no want " + i, x.want(i, 0), BAD);
         }
-        KingsYear full = with(times("nFxx3", 12), times("Fx9", 12));
+        KingsYear full = Kings.with(Kings.times("nFxx3", 12), Kings.times("Fx9", 12));
         due("6: law 11", full.law(11, 4), 3);
         due("6: law 12", full.law(12, 0), BAD);
         due("7: want 11", full.want(11, 2), 9);
@@ -192,7 +162,7 @@ public final class PromiseTest {
     }
 
     private static void trials() {
-        KingsYear x = with("mAaa;mAbb;mAcc", "");
+        KingsYear x = Kings.with("mAaa;mAbb;mAcc", "");
         int[][] wrong = {{-1, 0}, {30, 0}, {0, -1}, {0, 12}, {FAR_DOWN, 0}, {FAR_UP, 0}, {0, FAR_DOWN}, {0, FAR_UP}};
         for (int[] w : wrong) {
             due("8: bad", x.trial(w[0], w[1]), BAD);
@@ -237,7 +207,7 @@ public final class PromiseTest {
     }
 
     private static void breachesFirst() {
-        KingsYear x = with("mAaa;mAbb", "");
+        KingsYear x = Kings.with("mAaa;mAbb", "");
         x.breach(3, 1);
         x.breach(3, 2);
         due("9: without a trial", x.binds(29, 2), 0);
@@ -246,9 +216,9 @@ public final class PromiseTest {
         due("9: told before the trial", x.binds(3, 2), 2);
         due("9: binds once", x.binds(3, 0), 2);
         due("9: not again", x.binds(4, 0), 0);
-        typeAll(x, 0, ";mAcc");
+        Kings.typeAll(x, 0, ";mAcc");
         due("8, 9: told of a law that comes later", x.binds(3, 0) * 10 + x.binds(4, 2), 66);
-        KingsYear y = with("mAaa", "");
+        KingsYear y = Kings.with("mAaa", "");
         y.trial(0, 0);
         y.trial(4, 0);
         y.breach(4, 0);
@@ -277,7 +247,7 @@ public final class PromiseTest {
     }
 
     private static void leaning() {
-        KingsYear x = with("mAaa;mAaa0;mAaa1", "");
+        KingsYear x = Kings.with("mAaa;mAaa0;mAaa1", "");
         x.trial(4, 0);
         x.trial(2, 1);
         x.trial(3, 2);
@@ -292,24 +262,24 @@ public final class PromiseTest {
         x.back(1);
         x.breach(2, 1);
         due("11: lapses though it did not bind", x.binds(5, 2) * 10 + x.binds(5, 0), 21);
-        KingsYear late = with("mAaa;mAaa0", "");
+        KingsYear late = Kings.with("mAaa;mAaa0", "");
         late.trial(0, 0);
         late.trial(3, 1);
         due("11: leaning in its trial binds the king", late.binds(3, 0) * 10 + late.binds(3, 1), 31);
-        due("11: ring of one", tried("mAaa0", "").binds(5, 0), 0);
-        due("11: ring of two", tried("mAaa1;mAaa0;mAaa", "").binds(5, 0), 4);
-        due("11: into a ring", tried("mAaa1;mAaa2;mAaa1;mAaa", "").binds(5, 0), 8);
-        due("11: on a law that there is not", tried("mAaa9;mAaa0;mAaa", "").binds(5, 0), 4);
-        due("11: on a later law", tried("mAaa1;mAaa", "").binds(5, 1), 3);
-        KingsYear untried = with("mAaa;mAaa0", "");
+        due("11: ring of one", Kings.tried("mAaa0", "").binds(5, 0), 0);
+        due("11: ring of two", Kings.tried("mAaa1;mAaa0;mAaa", "").binds(5, 0), 4);
+        due("11: into a ring", Kings.tried("mAaa1;mAaa2;mAaa1;mAaa", "").binds(5, 0), 8);
+        due("11: on a law that there is not", Kings.tried("mAaa9;mAaa0;mAaa", "").binds(5, 0), 4);
+        due("11: on a later law", Kings.tried("mAaa1;mAaa", "").binds(5, 1), 3);
+        KingsYear untried = Kings.with("mAaa;mAaa0", "");
         untried.trial(0, 1);
         due("11: on an untried law", untried.binds(9, 0), 0);
         String chain = "mAaa1;mAaa2;mAaa3;mAaa4;mAaa5;mAaa6;mAaa7;mAaa8;mAaa9;mAaa;nBaa0;nCaa0";
-        due("11: the longest chain", tried(chain, "").binds(1, 1), 4095);
+        due("11: the longest chain", Kings.tried(chain, "").binds(1, 1), 4095);
     }
 
     private static void hours() {
-        KingsYear x = tried("mAwb;nBgg;mCgh", "Ba9;Bg9;Dx5;Eg5;Ec5;Fc5;Bj3;Cj2;Cj1;Cj1");
+        KingsYear x = Kings.tried("mAwb;nBgg;mCgh", "Ba9;Bg9;Dx5;Eg5;Ec5;Fc5;Bj3;Cj2;Cj1;Cj1");
         due("12: before midnight", x.does(0, 22), 0);
         due("12: ordered, not wanted", x.does(0, 23), 0);
         due("12: midnight", x.does(0, 0), 0);
@@ -320,14 +290,14 @@ public final class PromiseTest {
         due("12: ordered to the end", x.does(0, 7), 2);
         due("12: likes together", x.does(0, 9), 2);
         due("12: before it covers", x.does(0, 21), NONE);
-        KingsYear y = tried("nBgg;nEgg;mAhh;mAhh;mAii;mBii;mAjj;nAjj;nAkk;nAkk", "Bg9;Eg8;Dg2;Cg2;Ak1;Bj2");
+        KingsYear y = Kings.tried("nBgg;nEgg;mAhh;mAhh;mAii;mBii;mAjj;nAjj;nAkk;nAkk", "Bg9;Eg8;Dg2;Cg2;Ak1;Bj2");
         due("12: forbidden are passed over", y.does(0, 6), 2);
         due("12: ordered twice", y.does(0, 7), 0);
         due("12: unlike orders", y.does(0, 8), 6);
         due("12: ordered and forbidden", y.does(0, 9), 6);
         due("12: the only want forbidden", y.does(0, 10), NONE);
-        due("12: an unbound law", with("mAhh", "").does(0, 7), NONE);
-        KingsYear lapsed = with("mAaa", "");
+        due("12: an unbound law", Kings.with("mAhh", "").does(0, 7), NONE);
+        KingsYear lapsed = Kings.with("mAaa", "");
         lapsed.trial(2, 0);
         lapsed.breach(2, 0);
         due("12: year by year", lapsed.does(1, 0) * 100 + lapsed.does(2, 0) * 10 + lapsed.does(3, 0), -101);
@@ -339,10 +309,10 @@ public final class PromiseTest {
     }
 
     private static void joys() {
-        KingsYear x = tried("mAgg;mBhh;nChh;mAii;mBii;mCii;nDjj;mEkx", "Ag2;Ag3;Bg9;Ah5;Ai9;Bi9;Dj7;Ej1;Ek4;Aa1;Ax9;Bb6");
+        KingsYear x = Kings.tried("mAgg;mBhh;nChh;mAii;mBii;mCii;nDjj;mEkx", "Ag2;Ag3;Bg9;Ah5;Ai9;Bi9;Dj7;Ej1;Ek4;Aa1;Ax9;Bb6");
         due("13: joy", x.joy(0, 0), 5 + 0 + 0 + 1 + 4 + 1 + 6);
         due("13: first clash", x.joy(0, 1), 8);
-        KingsYear y = with("mAgg;mBgg;mAcc;nAcc", "Bg9;Ag1");
+        KingsYear y = Kings.with("mAgg;mBgg;mAcc;nAcc", "Bg9;Ag1");
         due("13: unbound", y.joy(3, 0) * 100 + y.joy(3, 1), 899);
         y.trial(3, 0);
         due("13: with an order", y.joy(3, 0), 1);
@@ -353,14 +323,14 @@ public final class PromiseTest {
         y.trial(4, 3);
         due("13: the first of two", y.joy(4, 1), 2);
         due("13: no clash before", y.joy(2, 1), NONE);
-        due("13: clash in the last hour", tried("mAax;mBxx", "").joy(0, 1), 23);
-        due("13: clash past midnight", tried("mAxa;nAaa", "").joy(0, 1), 0);
-        due("13: most joy", tried("", times("Aa9", 12)).joy(29, 0), 108);
+        due("13: clash in the last hour", Kings.tried("mAax;mBxx", "").joy(0, 1), 23);
+        due("13: clash past midnight", Kings.tried("mAxa;nAaa", "").joy(0, 1), 0);
+        due("13: most joy", Kings.tried("", Kings.times("Aa9", 12)).joy(29, 0), 108);
         wrongYearAndWhat();
     }
 
     private static void wrongYearAndWhat() {
-        KingsYear x = tried("mAgg;nAgg", "Ag2");
+        KingsYear x = Kings.tried("mAgg;nAgg", "Ag2");
         int[][] wrong = {{-1, 0}, {30, 0}, {0, -1}, {0, 2}, {FAR_DOWN, 0}, {FAR_UP, 0}, {0, FAR_DOWN}, {0, FAR_UP}};
         for (int[] w : wrong) {
             due("13: bad", x.joy(w[0], w[1]), BAD);
@@ -370,10 +340,10 @@ public final class PromiseTest {
     }
 
     private static void quarrelling() {
-        KingsYear x = tried("nAax;mBad;mAcc;mBdf;mCee;nBxa;nBbb", "");
+        KingsYear x = Kings.tried("nAax;mBad;mAcc;mBdf;mCee;nBxa;nBbb", "");
         due("14: how many", x.quarrels(0, 0), 5);
         due("14: the least", x.quarrels(0, 1), 2);
-        KingsYear y = with("mAaa;mBbb;mCab;nAaa", "");
+        KingsYear y = Kings.with("mAaa;mBbb;mCab;nAaa", "");
         y.trial(0, 1);
         y.trial(0, 2);
         due("14: of the bound ones", y.quarrels(0, 0), 1);
@@ -384,19 +354,19 @@ public final class PromiseTest {
         due("14: then three", y.quarrels(1, 0), 3);
         due("14: and the least", y.quarrels(1, 1), 2);
         due("14: not in the year before", y.quarrels(0, 0), 1);
-        KingsYear none = tried("mAaa;mBbb;nAcc;nBaa;mAaa", "");
+        KingsYear none = Kings.tried("mAaa;mBbb;nAcc;nBaa;mAaa", "");
         due("14: none", none.quarrels(0, 0), 0);
         due("14: no least", none.quarrels(0, 1), NONE);
-        KingsYear most = tried("mAax;mBax;mCax;mDax;mEax;mFax;nAax;nBax;nCax;nDax;nEax;nFax", "");
+        KingsYear most = Kings.tried("mAax;mBax;mCax;mDax;mEax;mFax;nAax;nBax;nCax;nDax;nEax;nFax", "");
         due("14: many", most.quarrels(0, 0), 15 + 6);
-        KingsYear last = with(times("nAaa", 10) + ";mBxx;nBwx", "");
+        KingsYear last = Kings.with(Kings.times("nAaa", 10) + ";mBxx;nBwx", "");
         last.trial(0, 10);
         last.trial(0, 11);
         due("14: the last pair", last.quarrels(0, 1), 131);
     }
 
     private static void exemptions() {
-        KingsYear x = tried("mAgj;nBax;mCij;nAhh;nDii", "Ag5;Bi9;Ci2;Di8;Ei8");
+        KingsYear x = Kings.tried("mAgj;nBax;mCij;nAhh;nDii", "Ag5;Bi9;Ci2;Di8;Ei8");
         due("15: does it already", x.exempt(0, 6, 0, 0), 0);
         due("15: without any", x.exempt(0, 6, 0, 1), 0);
         due("15: an order out", x.exempt(0, 8, 2, 1), 1);
@@ -410,10 +380,10 @@ public final class PromiseTest {
         due("15: nothing while he wants", x.exempt(0, 8, NONE, 0), NONE);
         due("15: nothing", x.exempt(0, 7, NONE, 1), 1);
         due("15: by order past a ban", x.exempt(0, 7, 0, 1), 8);
-        due("15: the less liked cannot be", tried("nBaa", "Aa9;Ca1").exempt(0, 0, 2, 1), NONE);
-        due("15: laws that do not bind", with("nAaa", "Aa9").exempt(0, 0, NONE, 0), NONE);
-        due("15: a ban stays", tried("nAaa;mBaa", "Aa9").exempt(0, 0, NONE, 1), 2);
-        due("15: leaning laws stay in a set", tried("nAaa;nBaa;mCaa1", "Ba9").exempt(0, 0, 1, 1), 6);
+        due("15: the less liked cannot be", Kings.tried("nBaa", "Aa9;Ca1").exempt(0, 0, 2, 1), NONE);
+        due("15: laws that do not bind", Kings.with("nAaa", "Aa9").exempt(0, 0, NONE, 0), NONE);
+        due("15: a ban stays", Kings.tried("nAaa;mBaa", "Aa9").exempt(0, 0, NONE, 1), 2);
+        due("15: leaning laws stay in a set", Kings.tried("nAaa;nBaa;mCaa1", "Ba9").exempt(0, 0, 1, 1), 6);
         int[][] wrong = {{-1, 0, 0, 0}, {30, 0, 0, 0}, {0, -1, 0, 0}, {0, 24, 0, 0}, {0, 0, -2, 0}, {0, 0, 6, 0},
             {0, 0, 0, -1}, {0, 0, 0, 2}, {FAR_DOWN, 0, 0, 0}, {0, FAR_UP, 0, 0}, {0, 0, FAR_DOWN, 0}, {0, 0, 0, FAR_UP}};
         for (int[] w : wrong) {
@@ -422,26 +392,26 @@ public final class PromiseTest {
     }
 
     private static void keeping() {
-        KingsYear x = tried("mAgj;nBax;mCij;nAhh;mDwb;nCii", "Ag5;Bi9;Ci2;Bg7;Da3");
+        KingsYear x = Kings.tried("mAgj;nBax;mCij;nAhh;mDwb;nCii", "Ag5;Bi9;Ci2;Bg7;Da3");
         due("16: as bits", x.keep(0, 0), 30);
         due("16: joy by these", x.keep(0, 1), 10);
-        due("16: no quarrel", tried("mAaa;nBaa", "Aa4").keep(0, 0), 3);
-        due("16: no quarrel's joy", tried("mAaa;nBaa", "Aa4").keep(0, 1), 4);
-        due("16: the most before joy", tried("mAax;nAbb;nAcc", "Ab9;Ac9").keep(0, 0), 6);
-        due("16: joy among like many", tried("mAaa;mBaa", "Aa3;Ba4").keep(0, 0), 2);
-        due("16: least among like", tried("mAaa;mBaa", "Aa4;Ba4").keep(0, 0), 1);
-        due("16: least with no wants", tried("mAaa;mBaa;mCaa", "").keep(0, 0), 1);
-        due("16: none binds", with("mAaa;mBaa", "Aa4").keep(0, 0), 0);
-        due("16: joy with none", with("mAaa;mBaa", "Aa4").keep(0, 1), 4);
+        due("16: no quarrel", Kings.tried("mAaa;nBaa", "Aa4").keep(0, 0), 3);
+        due("16: no quarrel's joy", Kings.tried("mAaa;nBaa", "Aa4").keep(0, 1), 4);
+        due("16: the most before joy", Kings.tried("mAax;nAbb;nAcc", "Ab9;Ac9").keep(0, 0), 6);
+        due("16: joy among like many", Kings.tried("mAaa;mBaa", "Aa3;Ba4").keep(0, 0), 2);
+        due("16: least among like", Kings.tried("mAaa;mBaa", "Aa4;Ba4").keep(0, 0), 1);
+        due("16: least with no wants", Kings.tried("mAaa;mBaa;mCaa", "").keep(0, 0), 1);
+        due("16: none binds", Kings.with("mAaa;mBaa", "Aa4").keep(0, 0), 0);
+        due("16: joy with none", Kings.with("mAaa;mBaa", "Aa4").keep(0, 1), 4);
         String pairs = "mAaa;nAaa;mAbb;nAbb;mAcc;nAcc;mAdd;nAdd;mAee;nAee;mAff;nAff";
-        due("16: six pairs", tried(pairs, "Aa1;Bb2;Ab1;Af5").keep(0, 0), 0b010101011001);
-        due("16: six pairs' joy", tried(pairs, "Aa1;Bb2;Ab1;Af5").keep(0, 1), 8);
-        KingsYear leaning = tried("nAaa;mAaa;nBbb1;nBbb1", "");
+        due("16: six pairs", Kings.tried(pairs, "Aa1;Bb2;Ab1;Af5").keep(0, 0), 0b010101011001);
+        due("16: six pairs' joy", Kings.tried(pairs, "Aa1;Bb2;Ab1;Af5").keep(0, 1), 8);
+        KingsYear leaning = Kings.tried("nAaa;mAaa;nBbb1;nBbb1", "");
         due("16: leaning laws stay in a set", leaning.keep(0, 0), 13);
     }
 
     private static void orders() {
-        KingsYear x = with("mAbb;nAbb;mBcc;nCdd0", "Ab4;Bc1;Cd2");
+        KingsYear x = Kings.with("mAbb;nAbb;mBcc;nCdd0", "Ab4;Bc1;Cd2");
         due("17: how much", x.order(3, 4, NONE), (4 + 1 + 2) + (0 + 1 + 2));
         due("17: the first", x.order(3, 4, 0), 0);
         due("17: the second", x.order(3, 4, 1), 1);
@@ -453,7 +423,7 @@ public final class PromiseTest {
         due("17: to year 29", x.order(15, 26, 3) >= 0 ? 1 : 0, 1);
         due("17: beyond year 29", x.order(15, 27, 3), BAD);
         due("17: two beyond", x.order(3, 29, 0), BAD);
-        KingsYear five = with(times("mAaa", 5), "Aa1");
+        KingsYear five = Kings.with(Kings.times("mAaa", 5), "Aa1");
         due("17: five are too many", five.order(31, 0, NONE), BAD);
         due("17: four", five.order(30, 0, NONE), 4);
         due("17: of like ones the least row", five.order(30, 0, 0) * 1000 + five.order(30, 0, 1) * 100
@@ -463,13 +433,13 @@ public final class PromiseTest {
         for (int[] w : wrong) {
             due("17: bad", five.order(w[0], w[1], w[2]), BAD);
         }
-        due("17: faulty laws", with("mAaa;", "").order(1, 0, NONE), BAD);
+        due("17: faulty laws", Kings.with("mAaa;", "").order(1, 0, NONE), BAD);
         ordersAmongTrials();
     }
 
     private static void ordersAmongTrials() {
         // Law 1 hurts, law 0 heals by a clash-free order; told trials of them count for nothing.
-        KingsYear x = with("nAaa;nBaa;nCaa", "Aa9;Ba5;Ca1");
+        KingsYear x = Kings.with("nAaa;nBaa;nCaa", "Aa9;Ba5;Ca1");
         due("17: the lesser harm first", x.order(3, 0, 0), 1);
         due("17: its joy", x.order(3, 0, NONE), 9 + 1);
         x.trial(0, 0);
@@ -483,7 +453,7 @@ public final class PromiseTest {
         x.breach(5, 0);
         due("17: or the other", x.order(3, 5, NONE), 14);
         due("17: then both are like, and the least row counts", x.order(3, 5, 0), 0);
-        KingsYear y = with("mBaa1;nAaa;nCaa", "Aa9;Ba5");
+        KingsYear y = Kings.with("mBaa1;nAaa;nCaa", "Aa9;Ba5");
         due("17: leaning", y.order(3, 0, NONE), 9 + 5);
         due("17: leaning first", y.order(3, 0, 0), 0);
         due("17: leaving one out", y.order(1, 0, NONE), 9);
@@ -547,7 +517,7 @@ public final class PromiseTest {
     }
 
     private static void sets() {
-        KingsYear x = with("mAaa;nAbb;mBcc;nBaa", "Ab3;Bb2");
+        KingsYear x = Kings.with("mAaa;nAbb;mBcc;nBaa", "Ab3;Bb2");
         due("21: all", x.sets(0), 16);
         due("21: the least of all", x.sets(1), 0);
         due("21: in all", x.sets(2), 0);
@@ -572,9 +542,9 @@ public final class PromiseTest {
         due("21: wants again", x.sets(0), 0);
         x.type(0, ';');
         due("21: by the laws of now", x.sets(0), 0);
-        due("21: leaning laws stay in a set", with("mAaa1;mBbb;mCcc0", "").sets(0), 8);
+        due("21: leaning laws stay in a set", Kings.with("mAaa1;mBbb;mCcc0", "").sets(0), 8);
         due("21: no laws", new KingsYear().sets(0), 1);
-        KingsYear full = with(times("mAaa", 12), "");
+        KingsYear full = Kings.with(Kings.times("mAaa", 12), "");
         due("21: of twelve laws", full.sets(0), 4096);
         full.seen(0, 0);
         due("21: some of twelve", full.sets(0) * 10 + full.sets(1), 40951);
@@ -584,7 +554,7 @@ public final class PromiseTest {
     }
 
     private static void watching() {
-        KingsYear x = with("mAaa;nAbb;mBcc;nBaa", "Ab3;Bb2");
+        KingsYear x = Kings.with("mAaa;nAbb;mBcc;nBaa", "Ab3;Bb2");
         due("22: one half", x.watch(), 0);
         x.seen(0, 0);
         due("22: the next", x.watch(), 1);
@@ -594,10 +564,10 @@ public final class PromiseTest {
         due("22: nothing to tell apart", x.watch(), 0);
         x.seen(2, 1);
         due("22: no set", x.watch(), 0);
-        due("22: a clash is an outcome", with("mAab;mBbb", "").watch(), 1);
-        due("22: of like ones the first", with("mAbc;mBdd", "").watch(), 1);
-        due("22: wants tell bans apart", with("nAax", "Aw1").watch(), 22);
-        due("22: the last hour", with("nAax", "Ax1").watch(), 23);
+        due("22: a clash is an outcome", Kings.with("mAab;mBbb", "").watch(), 1);
+        due("22: of like ones the first", Kings.with("mAbc;mBdd", "").watch(), 1);
+        due("22: wants tell bans apart", Kings.with("nAax", "Aw1").watch(), 22);
+        due("22: the last hour", Kings.with("nAax", "Ax1").watch(), 23);
         due("22: no laws", new KingsYear().watch(), 0);
     }
 
@@ -608,7 +578,7 @@ public final class PromiseTest {
     }
 
     private static void gouts() {
-        KingsYear x = tried("mAgj;nBax;mCij;nAhh;nDii", "Ag5;Bi9;Ci2;Di8;Ei8");
+        KingsYear x = Kings.tried("mAgj;nBax;mCij;nAhh;nDii", "Ag5;Bi9;Ci2;Di8;Ei8");
         gout(x, 4, 8, 6, 9, 16);
         gout(x, 4, 8, 0, 3, 16);
         gout(x, 4, 8, 2, 3, 16);
@@ -625,16 +595,16 @@ public final class PromiseTest {
         gout(x, 5, 7, 0, 55, 256);
         gout(x, 5, 7, NONE, 5, 16);
         gout(x, 7, 3, NONE, 1, 1);
-        gout(tried(times("mAaa", 12), ""), 1, 0, NONE, 1, 1L << 48);
-        gout(tried(times("mAaa", 12), ""), 1, 0, 0, (1L << 48) - 1, 1L << 48);
-        gout(tried(times("mAaa", 12), ""), 3, 0, 1, 0, 1);
-        gout(tried(times("nAaa", 12), "Aa1"), 15, 0, 0, 129746337890625L, 1L << 48);
-        gout(tried("nAaa;nBaa", "Aa1;Ba1"), 8, 0, NONE, 1, 4);
-        gout(tried("nAaa;nBaa", "Aa1;Ba1"), 8, 0, 1, 1, 4);
-        gout(with("mAaa", ""), 8, 0, 0, 0, 1);
-        KingsYear leaning = tried("mAaa;mAaa0", "");
+        gout(Kings.tried(Kings.times("mAaa", 12), ""), 1, 0, NONE, 1, 1L << 48);
+        gout(Kings.tried(Kings.times("mAaa", 12), ""), 1, 0, 0, (1L << 48) - 1, 1L << 48);
+        gout(Kings.tried(Kings.times("mAaa", 12), ""), 3, 0, 1, 0, 1);
+        gout(Kings.tried(Kings.times("nAaa", 12), "Aa1"), 15, 0, 0, 129746337890625L, 1L << 48);
+        gout(Kings.tried("nAaa;nBaa", "Aa1;Ba1"), 8, 0, NONE, 1, 4);
+        gout(Kings.tried("nAaa;nBaa", "Aa1;Ba1"), 8, 0, 1, 1, 4);
+        gout(Kings.with("mAaa", ""), 8, 0, 0, 0, 1);
+        KingsYear leaning = Kings.tried("mAaa;mAaa0", "");
         due("23: leaning laws are forgotten by themselves", leaning.gout(8, 0, 0, 0, 0), 3);
-        due("23: in another year", with("mAaa", "").gout(8, 29, 0, NONE, 0), 1);
+        due("23: in another year", Kings.with("mAaa", "").gout(8, 29, 0, NONE, 0), 1);
         int[][] wrong = {{-1, 0, 0, 0, 0}, {17, 0, 0, 0, 0}, {0, -1, 0, 0, 0}, {0, 30, 0, 0, 0}, {0, 0, -1, 0, 0},
             {0, 0, 24, 0, 0}, {0, 0, 0, -2, 0}, {0, 0, 0, 7, 0}, {0, 0, 0, 0, -1}, {0, 0, 0, 0, 2}, {FAR_DOWN, 0, 0, 0, 0},
             {0, FAR_UP, 0, 0, 0}, {0, 0, FAR_DOWN, 0, 0}, {0, 0, 0, FAR_UP, 0}, {0, 0, 0, 0, FAR_DOWN}};
@@ -645,20 +615,20 @@ public final class PromiseTest {
 
     private static void lots() {
         // Seed 0: 12345 (0), -1406932606 (44068), 654583775 (9988), 1449466924 (22117): by hand.
-        KingsYear one = with("nAaa", "Aa7;Ba2");
+        KingsYear one = Kings.with("nAaa", "Aa7;Ba2");
         due("24: lapses with a lot of 0", one.years(0, 1, 0), 0);
         due("24: joy without it", one.years(0, 1, 1), 7);
         due("24: a law is tried once", one.years(0, 30, 0), 0);
-        KingsYear two = with("nAaa;nBaa", "Aa7;Ba2");
+        KingsYear two = Kings.with("nAaa;nBaa", "Aa7;Ba2");
         due("24: the second year", two.years(0, 2, 0), 0);
-        due("24: kept by another seed", with("nAaa", "Aa7;Ba2").years(654583775, 1, 0), 1);
-        due("24: and its joy", with("nAaa", "Aa7;Ba2").years(654583775, 1, 1), 2);
-        KingsYear told = with("nAaa", "Aa7;Ba2");
+        due("24: kept by another seed", Kings.with("nAaa", "Aa7;Ba2").years(654583775, 1, 0), 1);
+        due("24: and its joy", Kings.with("nAaa", "Aa7;Ba2").years(654583775, 1, 1), 2);
+        KingsYear told = Kings.with("nAaa", "Aa7;Ba2");
         told.trial(0, 0);
         told.breach(0, 0);
         due("24: what is told is nothing", told.years(654583775, 30, 0) * 10 + told.years(0, 30, 1), 17);
         due("24: what is told stays", told.binds(0, 2), 1);
-        due("24: leaning", with("nAaa0", "Aa7").years(654583775, 1, 0), 0);
+        due("24: leaning", Kings.with("nAaa0", "Aa7").years(654583775, 1, 0), 0);
         due("24: any seed", one.years(FAR_DOWN, 30, 0) >= 0 && one.years(FAR_UP, 30, 0) >= 0 ? 1 : 0, 1);
         int[][] wrong = {{0, 0, 0}, {0, 31, 0}, {0, -1, 0}, {0, 1, -1}, {0, 1, 2}, {0, FAR_DOWN, 0}, {0, FAR_UP, 0},
             {0, 1, FAR_DOWN}, {0, 1, FAR_UP}};
@@ -669,14 +639,14 @@ public final class PromiseTest {
             lotsOfManySeeds(seed);
         }
         due("24: no laws", new KingsYear().years(0, 1, 0), BAD);
-        due("24: faulty laws", with("mAa", "Aa1").years(0, 1, 1), BAD);
+        due("24: faulty laws", Kings.with("mAa", "Aa1").years(0, 1, 1), BAD);
     }
 
     /** With twelve laws and thirty years some are tried first in year 29, where they bind the king alone. */
     private static void lotsOfManySeeds(int first) {
         String laws = "nAaa;nBaa;nCaa;nDaa;nEaa;nFaa;nAbb;nBbb;nCbb;nDbb;nEbb0;nFbb";
         String wants = "Aa9;Ba8;Ca7;Da6;Ea5;Fa4;Ab6;Bb5;Cb4;Db3;Eb2;Fb1";
-        KingsYear x = with(laws, wants);
+        KingsYear x = Kings.with(laws, wants);
         Oracle y = new Oracle();
         for (int i = 0; i < laws.length(); i++) {
             y.type(0, laws.charAt(i));
@@ -803,7 +773,7 @@ public final class PromiseTest {
     }
 
     private static void writing() {
-        KingsYear x = with("mAgj;mBhh", "Fa1");
+        KingsYear x = Kings.with("mAgj;mBhh", "Fa1");
         x.trial(2, 0);
         x.trial(3, 1);
         x.sheet(0, 0, 30);
@@ -831,7 +801,7 @@ public final class PromiseTest {
     }
 
     private static void counts() {
-        KingsYear x = with("mAgj;mBhh;mCii0", "Fa1;Fb2");
+        KingsYear x = Kings.with("mAgj;mBhh;mCii0", "Fa1;Fb2");
         x.trial(2, 0);
         x.trial(2, 1);
         x.trial(29, 2);
