@@ -95,6 +95,8 @@ public final class PlanBoundsTest {
         keep("the most before joy", Kings.tried("mAaa;mBaa;mBaa", "Aa9"), 6, 0);
         keep("of like many by joy", Kings.tried("mAaa;mBaa", "Aa3;Ba4"), 2, 4);
         keep("of like joy the least bits", Kings.tried("mAaa;mBaa", "Aa4;Ba4"), 1, 4);
+        keep("of like joy the least bits, whichever law is the first", Kings.tried("mAaa;mBaa;mBaa;mAaa", "Aa4;Ba4"), 6, 4);
+        keep("of more joy the greater bits", Kings.tried("mAaa;mBaa;mBaa;mAaa", "Aa5;Ba3"), 9, 5);
         keep("of twelve in pairs the least bits", Kings.tried("nAaa;mAaa;nAbb;mAbb;nAcc;mAcc;nAdd;mAdd;nAee;mAee;nAff;mAff", ""), 0b010101010101, 0);
         keep("a clash in one hour of all", Kings.tried("mAax;nAxx;nBax", ""), 5, 0);
         keep("a clash past midnight", Kings.tried("mAxa;nAab;nBax;nCax", "Aa2"), 13, 2);
@@ -195,6 +197,10 @@ public final class PlanBoundsTest {
         due("17: from its year on", x.order(3, 5, NONE), 9 + 0);
         due("17: not before", x.order(3, 4, NONE), 9 + 1);
         due("17: told trials stay as they are", x.binds(5, 0) * 10 + x.binds(6, 0), 37);
+        KingsYear first = Kings.with("nBaa;nAaa;nCaa", "Aa9;Ba5;Ca1");
+        first.trial(0, 1);
+        due("17: nothing in any of these years, the best row being the least", first.order(3, 5, NONE), 9 + 1);
+        due("17: that row", row(first, 3, 5), 1);
         KingsYear full = Kings.with("nAaa;nBaa", "Aa9;Ba5");
         for (int k = 0; k < 12; k++) {
             full.trial(0, k);
@@ -207,6 +213,9 @@ public final class PlanBoundsTest {
         x.trial(0, 1);
         x.breach(0, 1);
         due("17: it lapses by the year of its trial told no more", x.order(3, 5, NONE), 9 + 0);
+        x.trial(0, 0);
+        x.breach(0, 0);
+        due("17: nor does the other", x.order(3, 5, NONE), 9 + 0);
         x.breach(5, 1);
         due("17: by a breach in the year in which it is tried", x.order(3, 5, NONE), 9 + 5);
         due("17: in another order it is tried in another year", x.order(3, 4, NONE), 9 + 0);

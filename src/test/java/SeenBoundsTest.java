@@ -4,6 +4,9 @@ import java.util.Arrays;
 public final class SeenBoundsTest {
     private static final int NONE = Kings.NONE, BAD = Kings.BAD, FULL = Kings.FULL, NULL = Kings.NULL;
     private static final int CLASH = 6;
+    // Law k forbids A in hour k, and so takes 2 from joy.
+    private static final String ONE_AN_HOUR = "nAaa;nAbb;nAcc;nAdd;nAee;nAff;nAgg;nAhh;nAii;nAjj;nAkk;nAll";
+    private static final String WANTED = "Aa2;Ab2;Ac2;Ad2;Ae2;Af2;Ag2;Ah2;Ai2;Aj2;Ak2;Al2";
     private static final Check CHECK = new Check();
     private static final Twins TWINS = new Twins(CHECK);
 
@@ -22,6 +25,8 @@ public final class SeenBoundsTest {
         goutNumbers();
         goutEnds();
         goutOfTwelve();
+        goutOfUnlikeDeeds();
+        goutOfLikeOnes();
         goutAddsUp();
         yearNumbers();
         lots();
@@ -202,12 +207,15 @@ public final class SeenBoundsTest {
             String letter = "" + (char) ('a' + hour);
             due("22: the only hour that tells", Kings.with("mA" + letter + letter, "").watch(), hour);
             due("22: a ban tells with a want", Kings.with("nAax", "A" + letter + "1").watch(), hour);
+            due("22: of the last deed, too", Kings.with("nFax", "F" + letter + "1").watch(), hour);
         }
         due("22: of like ones the first", Kings.with("mAcc;mBdd;mCee", "").watch(), 2);
         due("22: past midnight the first is midnight", Kings.with("mAxb", "").watch(), 0);
         due("22: a clash is alike by itself", Kings.with("mAbb;mBbb;mCaa", "").watch(), 1);
         due("22: clashes are alike", Kings.with("mAab;mBab;mCaa", "").watch(), 1);
         due("22: no ban tells without a want", Kings.with("nAax", "").watch(), 0);
+        due("22: hours that are unlike in all deeds", Kings.with("nAax", "Af6;Bf5;Cf4;Df3;Ef2;Ff1").watch(), 5);
+        due("22: hours that are unlike in the last deed", Kings.with("nFax", "Af1;Ff2;Ag2;Fg1").watch(), 5);
         due("22: told apart already", seeing("mAaa;mBbb", "", 0, 0).watch(), 1);
         due("22: all told apart", seeing("mAaa;mBbb", "", 0, 0, 1, 1).watch(), 0);
         TWINS.asksOnly("22: watch", Kings::rich, x -> x.watch());
@@ -278,6 +286,44 @@ public final class SeenBoundsTest {
         gout("some ban, some order", halves, 8, CLASH, 63 * 63, 4096);
     }
 
+    private static void goutOfUnlikeDeeds() {
+        for (int d = 0; d < 6; d++) {
+            String letter = "" + (char) ('A' + d);
+            String other = "" + (char) ('A' + (d + 1) % 6);
+            KingsYear orders = Kings.tried("m" + letter + "aa;m" + other + "aa", "");
+            gout("one of two orders, " + letter, orders, 4, d, 3, 16);
+            gout("both orders, " + letter, orders, 4, 6, 9, 16);
+            gout("no order, " + letter, orders, 4, NONE, 1, 16);
+            KingsYear mixed = Kings.tried("m" + letter + "aa;n" + other + "aa", other + "a1");
+            gout("an order, a ban on another, " + letter, mixed, 4, d, 3, 4);
+            gout("a ban alone, " + letter, mixed, 4, NONE, 3, 16);
+            gout("neither, " + letter, mixed, 4, (d + 1) % 6, 1, 16);
+        }
+        KingsYear x = Kings.tried("mAaa;nBaa;nAaa", "Ba9;Aa5");
+        gout("ordered, or the next that he likes", x, 8, 0, 3, 8);
+        gout("what he likes most", x, 8, 1, 1, 4);
+        gout("ordered and forbidden", x, 8, CLASH, 1, 4);
+        gout("both forbidden", x, 8, NONE, 1, 8);
+        KingsYear three = Kings.tried("mAaa;mBaa;nCaa", "Ca9;Da5;Ea5");
+        gout("what he likes most, of three", three, 4, 2, 1, 64);
+        gout("of like ones the least", three, 4, 3, 3, 64);
+        gout("of like ones the greater", three, 4, 4, 0, 1);
+    }
+
+    private static void goutOfLikeOnes() {
+        KingsYear like = Kings.tried("nAaa;nBaa", "Aa1;Ba1");
+        gout("the least of two like ones", like, 4, 0, 1, 4);
+        gout("the greater of two like ones", like, 4, 1, 3, 16);
+        gout("none of two like ones", like, 4, NONE, 9, 16);
+        KingsYear unlike = Kings.tried("nAaa;nBaa", "Aa1;Ba2");
+        gout("the lesser like", unlike, 4, 0, 3, 16);
+        gout("the greater like", unlike, 4, 1, 1, 4);
+        KingsYear unwanted = Kings.tried("nAaa;nBaa;nCaa", "Ba1");
+        gout("bans on what he does not want", unwanted, 4, 1, 1, 4);
+        gout("the ban on what he wants", unwanted, 4, NONE, 3, 4);
+        gout("what he does not want", unwanted, 4, 0, 0, 1);
+    }
+
     /** All that he may do in an hour is as a whole sure. */
     private static void goutAddsUp() {
         for (int c = 0; c <= 16; c++) {
@@ -308,20 +354,34 @@ public final class SeenBoundsTest {
 
     /** "1103515245 SEED and 12345, as ints that wrap; its upper 16 bits as a number from 0 on" */
     private static void lots() {
-        for (int seed : new int[] {0, 1, 7, -1, 65535, 65536, -65536, Kings.FAR_DOWN, Kings.FAR_UP, 1103515245, 654583775}) {
+        int keeping = tryingLast(0);
+        int lapsing = tryingLast(1);
+        CHECK.holds("24: by some seed a law is tried first in year 29", keeping != NONE && lapsing != NONE);
+        for (int seed : new int[] {keeping, lapsing, 0, 1, 7, -1, 65535, 65536, -65536, Kings.FAR_DOWN, Kings.FAR_UP, 1103515245, 654583775}) {
             for (int many = 1; many <= 12; many++) {
-                KingsYear x = Kings.with(Kings.times("nAaa", many), "Aa9");
+                KingsYear x = Kings.with(ONE_AN_HOUR.substring(0, 5 * many - 1), WANTED);
                 for (int n : new int[] {1, 2, 28, 29, 30}) {
                     int[] due = bound(seed, n, many);
                     String what = "seed " + seed + ", " + many + " laws, " + n + " years";
                     due("24: how many, " + what, x.years(seed, n, 0), due[0]);
-                    due("24: joy, " + what, x.years(seed, n, 1), due[1] > 0 ? 0 : 9);
+                    due("24: joy, " + what, x.years(seed, n, 1), 24 - 2 * due[1]);
                 }
             }
         }
     }
 
-    /** How many laws bind all others in year 29, how many the king; unsigned, in longs. */
+    /** A seed by which, of twelve laws, one is tried first in year 29, where it binds the king alone, and lapses or not. */
+    private static int tryingLast(int lapses) {
+        for (int seed = 0; seed < 100000; seed++) {
+            int[] bound = bound(seed, 30, 12);
+            if (bound[1] > bound[0] && bound[2] == lapses) {
+                return seed;
+            }
+        }
+        return NONE;
+    }
+
+    /** How many laws bind all others in year 29, how many the king, and how many lapse in it; unsigned, in longs. */
     private static int[] bound(int start, int n, int many) {
         long whole = 1L << 32;
         long seed = start < 0 ? start + whole : start;
@@ -340,12 +400,14 @@ public final class SeenBoundsTest {
         }
         int others = 0;
         int king = 0;
+        int late = 0;
         for (int law = 0; law < many; law++) {
             boolean lasts = triedIn[law] != NONE && triedIn[law] < 29 && !lapses[law];
             others += lasts ? 1 : 0;
             king += lasts || triedIn[law] == 29 ? 1 : 0;
+            late += triedIn[law] == 29 && lapses[law] ? 1 : 0;
         }
-        return new int[] {others, king};
+        return new int[] {others, king, late};
     }
 
     private static void lotsOfYears() {

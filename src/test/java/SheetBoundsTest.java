@@ -415,7 +415,13 @@ public final class SheetBoundsTest {
     // ---- promise 32: the row of answers, folded
 
     private static void digests() {
-        KingsYear[] made = {new KingsYear(), Kings.rich(), Kings.fullTexts(), Kings.crowded(), Kings.with("mAaa;", "Aa1"), Kings.with("mAaa", "Aa1;"),
+        KingsYear late = Kings.with("mBau;nAbu;mCii;mDaa;nEcc;nFdd", "Ba1;Bi2;Bu3;Ab4;Ec5;Fd6");
+        late.trial(29, 0);
+        late.trial(2, 2);
+        late.trial(3, 1);
+        late.breach(2, 0);
+        KingsYear[] made = {late, Kings.with("nAaa;nAbb;nAcc;nAdd;nAee;nAff;nAgg;nAhh;nAii;nAjj;nAkk", "Aa1;Ab1;Ac1;Ad1;Ae1;Af1;Ag1;Ah1;Ai1;Aj1;Ak1"),
+            new KingsYear(), Kings.rich(), Kings.fullTexts(), Kings.crowded(), Kings.with("mAaa;", "Aa1"), Kings.with("mAaa", "Aa1;"),
             Kings.with("mAaa", ""), Kings.with("mAaa;nBii", "Bi2"), Kings.tried("mBau;nBai;mBuu0", "Ba1;Bi2;Bu3")};
         for (int k = 0; k < made.length; k++) {
             due("32: object " + k, made[k].digest(), folded(made[k]));

@@ -148,6 +148,39 @@ public final class TextBoundsTest {
         due("3: trials, breaches and seen stay", told.count(4) * 100 + told.count(5) * 10 + told.count(6), 722);
         Kings.typeAll(told, 0, "mAgj;nBax;mCij;nAhh1;mDwb;nCii0");
         due("3: typed again, they bind as before", told.binds(3, 0), bound);
+        nothingOfBefore();
+    }
+
+    /** Laws and wants that were wiped or undone leave nothing behind in those that come after them. */
+    private static void nothingOfBefore() {
+        KingsYear hours = Kings.tried("mAab;mBab", "");
+        due("3: before, a quarrel", hours.quarrels(0, 0) * 10 + hours.watch(), 10);
+        hours.wipe(0);
+        Kings.typeAll(hours, 0, "mAbb;mBcc");
+        due("3: hours of wiped laws are nothing", hours.quarrels(0, 0) * 10 + hours.watch(), 1);
+        KingsYear x = Kings.tried("mAax;nBax;mCbb", "Aa9;Ab9;Bx9;Bb1");
+        x.watch();
+        x.wipe(0);
+        x.wipe(1);
+        Kings.typeAll(x, 0, "nAcc;mDdd;nEee");
+        Kings.typeAll(x, 1, "Ac2;Bc1;Cb3");
+        compare("3: other texts after wiped ones", x, Kings.tried("nAcc;mDdd;nEee", "Ac2;Bc1;Cb3"));
+        due("3: their joy", x.joy(0, 0), 4);
+        due("3: their quarrels", x.quarrels(0, 0), 0);
+        due("3: their hour to watch", x.watch(), 2);
+        for (int n = 0; n < 10; n++) {
+            x.undo(0);
+        }
+        Kings.typeAll(x, 0, ";nCcc");
+        compare("4: other laws after undone ones", x, withThreeTrials("nAcc;nCcc", "Ac2;Bc1;Cb3"));
+    }
+
+    private static KingsYear withThreeTrials(String laws, String wants) {
+        KingsYear x = Kings.with(laws, wants);
+        for (int law = 0; law < 3; law++) {
+            x.trial(0, law);
+        }
+        return x;
     }
 
     // ---- promise 4: "The last byte of a text is undone: how many are left. BAD; NOT: it is empty."

@@ -260,6 +260,11 @@ public final class YearBoundsTest {
         due("11: leans on a law that there is not", x.binds(0, 0) + x.binds(29, 0) + x.binds(29, 1), 0);
         Kings.typeAll(x, 0, ";nAaa");
         due("11: it is there now", x.binds(0, 0), 3);
+        for (int n = 0; n < 5; n++) {
+            x.undo(0);
+        }
+        due("11: it is gone again", x.binds(0, 0), 0);
+        due("11: though its trial is told", x.count(4), 2);
         due("11: on the last that there is", Kings.tried("nAaa2;nAaa;nAaa", "").binds(1, 1), 7);
         due("11: on the first that there is not", Kings.tried("nAaa3;nAaa;nAaa", "").binds(1, 1), 6);
         due("11: by another, too", Kings.tried("nAaa9;nAaa0;nAaa1;nAaa", "").binds(1, 1), 8);
