@@ -1,13 +1,20 @@
+import java.io.IOException;
 import java.lang.reflect.Constructor;
 import java.lang.reflect.Field;
 import java.lang.reflect.Method;
 import java.lang.reflect.Modifier;
+import java.nio.charset.StandardCharsets;
+import java.nio.file.Files;
+import java.nio.file.Path;
 import java.util.Arrays;
 import java.util.HashSet;
 import java.util.Set;
 import java.util.TreeSet;
 
-/** The public face is the document's, and nothing else is to be seen (LANGUAGE.md, rules 1, 2, 5, 11). */
+/**
+ * The public face is the document's, and nothing else is to be seen (LANGUAGE.md, rules 1, 2, 5, 11). The argument
+ * is the path of the class's source.
+ */
 public final class FaceTest {
     private static final String[] METHODS = {
         "int type(int,int)", "int wipe(int)", "int undo(int)", "int fault(int)", "int law(int,int)", "int want(int,int)",
@@ -17,9 +24,12 @@ public final class FaceTest {
         "long gout(int,int,int,int,int)", "int years(int,int,int)", "int sheet(int,int,int)", "int lose(int)",
         "int lay(int,int,int,int)", "int get(int,int,int)", "int copy(int,int,int,int,int)", "int write(int,int)",
         "int count(int)", "long digest()"};
+    // What the interface says ahead of calls, and the first of them.
+    private static final String[][] HEADINGS = {{"laws, wants, trials", "type"}, {"years", "binds"}, {"plans", "exempt"},
+        {"seen, gout, years by lot", "seen"}, {"sheets", "sheet"}};
     private static final Check CHECK = new Check();
 
-    public static void main(String[] args) {
+    public static void main(String[] args) throws IOException {
         Class<?> face = KingsYear.class;
         CHECK.due("the class is", face.getModifiers(), Modifier.PUBLIC | Modifier.FINAL);
         Constructor<?>[] makers = face.getDeclaredConstructors();
@@ -38,7 +48,24 @@ public final class FaceTest {
         CHECK.holds("classes: " + classes, classes <= 12);
         fields(face);
         parameters(face);
+        headings(Files.readString(Path.of(args[0]), StandardCharsets.ISO_8859_1));
         CHECK.end("FaceTest");
+    }
+
+    /** The calls stand in the document's order, each heading just ahead of its first one. */
+    private static void headings(String source) {
+        int before = -1;
+        for (String method : METHODS) {
+            int at = source.indexOf("\n    public " + method.substring(0, method.indexOf('(') + 1));
+            CHECK.holds(method + " stands in its order", at > before);
+            for (String[] heading : HEADINGS) {
+                if (method.contains(" " + heading[1] + "(")) {
+                    int head = source.indexOf("\n    // ---- " + heading[0] + "\n");
+                    CHECK.holds(heading[0] + " is said ahead of " + method, head > before && head < at);
+                }
+            }
+            before = at;
+        }
     }
 
     private static void methods(Class<?> face) {
